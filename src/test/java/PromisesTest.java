@@ -194,6 +194,7 @@ public final class PromisesTest {
         due("parts: a triangle", 8, desk(0, 1, 1, 2, 2, 0).parts());
         due("parts: a ring of five is one", 6, desk(0, 1, 1, 2, 2, 3, 3, 4, 4, 0).parts());
         due("parts: a long row in no order", 1, desk(9, 0, 0, 8, 8, 1, 1, 7, 7, 2, 2, 6, 6, 3, 3, 5, 5, 4).parts());
+        due("parts: a long row downwards", 1, desk(0, 9, 9, 8, 8, 7, 7, 6, 6, 5, 5, 4, 4, 3, 3, 2, 2, 1).parts());
         due("parts: petersen", 1, petersen().parts());
         due("parts: five pairs", 5, desk(0, 5, 1, 6, 2, 7, 3, 8, 4, 9).parts());
         due("parts: all lines", 1, deskWithAllLines().parts());
