@@ -11,6 +11,17 @@ final class Answers {
         }
     }
 
+    // Two objects that must not be told apart by any call.
+    void same(String what, BlossomDesk want, BlossomDesk got) {
+        asked++;
+        String due = Desks.allAnswers(want);
+        String seen = Desks.allAnswers(got);
+        if (!seen.equals(due)) {
+            wrong++;
+            System.out.println(what + ": all answers are\n  " + seen + "\ndue is\n  " + due);
+        }
+    }
+
     void finish() {
         System.out.println(asked + " answers, " + wrong + " not as due");
         if (wrong != 0 || asked == 0) {

@@ -1,8 +1,6 @@
 /** One method for each promise of the document, with answers worked out by hand. */
 public final class PromisesTest {
     private static final Answers answers = new Answers();
-    private static final int[] OUT_OF_RANGE = {
-        -1, 10, 11, 31, 32, 33, 42, 64, -10, -32, 1024, Integer.MAX_VALUE, Integer.MIN_VALUE};
 
     public static void main(String[] args) {
         promise1NewObject();
@@ -15,7 +13,6 @@ public final class PromisesTest {
         promise8Guards();
         promise9MostWithout();
         promise10Parts();
-        wrongPointsAreRefused();
         objectsAreApart();
         answers.finish();
     }
@@ -24,47 +21,18 @@ public final class PromisesTest {
         answers.due(call, want, got);
     }
 
-    // Points in twos: each two have a line.
     private static BlossomDesk desk(int... points) {
-        BlossomDesk desk = new BlossomDesk();
-        for (int i = 0; i + 1 < points.length; i += 2) {
-            desk.join(points[i], points[i + 1]);
-        }
-        return desk;
-    }
-
-    private static BlossomDesk deskWithAllLines() {
-        BlossomDesk desk = new BlossomDesk();
-        for (int a = 0; a < 10; a++) {
-            for (int b = a + 1; b < 10; b++) {
-                due("all lines: join(" + a + ", " + b + ")", 1, desk.join(a, b));
-            }
-        }
-        return desk;
-    }
-
-    // Two rings of five with a line between each point and its twin.
-    private static BlossomDesk petersen() {
-        return desk(0, 1, 1, 2, 2, 3, 3, 4, 4, 0, 5, 7, 7, 9, 9, 6, 6, 8, 8, 5, 0, 5, 1, 6, 2, 7, 3, 8, 4, 9);
+        return Desks.withLines(points);
     }
 
     private static void promise1NewObject() {
         BlossomDesk desk = new BlossomDesk();
         due("new: most()", 0, desk.most());
+        due("new: spare(4)", 1, desk.spare(4));
         due("new: guards()", 0, desk.guards());
         due("new: parts()", 10, desk.parts());
-        due("new: mostWithout(0)", 0, desk.mostWithout(0));
-        for (int a = 0; a < 10; a++) {
-            due("new: spare(" + a + ")", 1, desk.spare(a));
-            for (int b = 0; b < 10; b++) {
-                if (a != b) {
-                    String pair = "(" + a + ", " + b + ")";
-                    due("new: usable" + pair, 0, desk.usable(a, b));
-                    due("new: needed" + pair, 0, desk.needed(a, b));
-                    due("new: part" + pair, 0, desk.part(a, b));
-                }
-            }
-        }
+        due("new: part(3, 7)", 0, desk.part(3, 7));
+        due("new: join(3, 7)", 1, desk.join(3, 7));
     }
 
     private static void promise2Join() {
@@ -77,7 +45,6 @@ public final class PromisesTest {
         due("join: after part", 1, desk.part(9, 0));
         due("join: there was none again", 1, desk.join(9, 0));
         due("join: both lines", 1, desk.most());
-        due("join: all lines make five pairs", 5, deskWithAllLines().most());
     }
 
     private static void promise3Part() {
@@ -91,14 +58,6 @@ public final class PromisesTest {
         due("part: the other line stays", 1, desk.needed(3, 4));
         due("part: most()", 1, desk.most());
         due("part: parts()", 9, desk.parts());
-        BlossomDesk full = deskWithAllLines();
-        for (int a = 0; a < 10; a++) {
-            for (int b = 0; b < a; b++) {
-                due("all lines: part(" + a + ", " + b + ")", 1, full.part(a, b));
-            }
-        }
-        due("part: nothing left, most()", 0, full.most());
-        due("part: nothing left, parts()", 10, full.parts());
     }
 
     private static void promise4Most() {
@@ -109,7 +68,7 @@ public final class PromisesTest {
         due("most: a ring of five", 2, desk(0, 1, 1, 2, 2, 3, 3, 4, 4, 0).most());
         due("most: two triangles and a bridge", 3, desk(0, 1, 1, 2, 2, 0, 2, 3, 3, 4, 4, 5, 5, 3).most());
         due("most: two triangles apart", 2, desk(0, 1, 1, 2, 2, 0, 7, 8, 8, 9, 9, 7).most());
-        due("most: petersen", 5, petersen().most());
+        due("most: petersen", 5, Desks.petersen().most());
         due("most: a row of ten", 5, desk(0, 1, 1, 2, 2, 3, 3, 4, 4, 5, 5, 6, 6, 7, 7, 8, 8, 9).most());
     }
 
@@ -123,7 +82,7 @@ public final class PromisesTest {
         for (int p = 0; p < 10; p++) {
             due("spare: a ring of five, spare(" + p + ")", 1, ring.spare(p));
         }
-        BlossomDesk all = petersen();
+        BlossomDesk all = Desks.petersen();
         for (int p = 0; p < 10; p++) {
             due("spare: petersen, spare(" + p + ")", 0, all.spare(p));
         }
@@ -137,7 +96,7 @@ public final class PromisesTest {
         due("usable: no line, but both could be paired", 0, row.usable(0, 3));
         due("usable: no line between spare points", 0, row.usable(8, 9));
         due("usable: asking draws no line", 0, row.join(1, 2));
-        due("usable: a line of petersen", 1, petersen().usable(5, 0));
+        due("usable: a line of petersen", 1, Desks.petersen().usable(5, 0));
         due("usable: a line of a triangle", 1, desk(7, 8, 8, 9, 9, 7).usable(9, 7));
     }
 
@@ -163,7 +122,7 @@ public final class PromisesTest {
         due("guards: two stars", 3, desk(0, 2, 0, 3, 1, 4, 1, 5).guards());
         due("guards: a triangle has none", 0, desk(0, 1, 1, 2, 2, 0).guards());
         due("guards: nothing spare in a pair", 0, desk(0, 1).guards());
-        due("guards: nothing spare at all", 0, petersen().guards());
+        due("guards: nothing spare at all", 0, Desks.petersen().guards());
         due("guards: beside a guard, not beside a spare", 1, desk(0, 1, 0, 2, 0, 3, 3, 4).guards());
         due("guards: a row of five", 10, desk(0, 1, 1, 2, 2, 3, 3, 4).guards());
     }
@@ -176,13 +135,6 @@ public final class PromisesTest {
         due("mostWithout: the two ends", 2, row.mostWithout(9));
         due("mostWithout: point 9", 2, row.mostWithout(512));
         due("mostWithout: a point without a line", 3, row.mostWithout(16));
-        due("mostWithout: all points", 0, row.mostWithout(1023));
-        due("mostWithout: bit 10 is not looked at", 3, row.mostWithout(1024));
-        due("mostWithout: bits above and below", 2, row.mostWithout(1024 + 1));
-        due("mostWithout: all bits", 0, row.mostWithout(-1));
-        due("mostWithout: all bits but ten", 3, row.mostWithout(-1024));
-        due("mostWithout: the lowest number", 3, row.mostWithout(Integer.MIN_VALUE));
-        due("mostWithout: the highest number", 0, row.mostWithout(Integer.MAX_VALUE));
         due("mostWithout: the points are still there", 3, row.most());
         due("mostWithout: the lines are still there", 0, row.join(8, 9));
     }
@@ -195,47 +147,8 @@ public final class PromisesTest {
         due("parts: a ring of five is one", 6, desk(0, 1, 1, 2, 2, 3, 3, 4, 4, 0).parts());
         due("parts: a long row in no order", 1, desk(9, 0, 0, 8, 8, 1, 1, 7, 7, 2, 2, 6, 6, 3, 3, 5, 5, 4).parts());
         due("parts: a long row downwards", 1, desk(0, 9, 9, 8, 8, 7, 7, 6, 6, 5, 5, 4, 4, 3, 3, 2, 2, 1).parts());
-        due("parts: petersen", 1, petersen().parts());
+        due("parts: petersen", 1, Desks.petersen().parts());
         due("parts: five pairs", 5, desk(0, 5, 1, 6, 2, 7, 3, 8, 4, 9).parts());
-        due("parts: all lines", 1, deskWithAllLines().parts());
-    }
-
-    private static void wrongPointsAreRefused() {
-        for (int wrong : OUT_OF_RANGE) {
-            for (int right = 0; right < 10; right++) {
-                refusePair(wrong, right);
-                refusePair(right, wrong);
-            }
-            refusePair(wrong, wrong);
-            BlossomDesk desk = desk(0, 1, 1, 2, 2, 3);
-            due("refused: spare(" + wrong + ")", -1, desk.spare(wrong));
-            stands("spare(" + wrong + ")", desk);
-        }
-        for (int p = 0; p < 10; p++) {
-            refusePair(p, p);
-        }
-    }
-
-    private static void refusePair(int a, int b) {
-        String pair = "(" + a + ", " + b + ")";
-        BlossomDesk desk = desk(0, 1, 1, 2, 2, 3);
-        due("refused: join" + pair, -1, desk.join(a, b));
-        due("refused: part" + pair, -1, desk.part(a, b));
-        due("refused: usable" + pair, -1, desk.usable(a, b));
-        due("refused: needed" + pair, -1, desk.needed(a, b));
-        stands(pair, desk);
-    }
-
-    // The row 0-1-2-3 and no other line.
-    private static void stands(String after, BlossomDesk desk) {
-        due("after " + after + ": most()", 2, desk.most());
-        due("after " + after + ": parts()", 7, desk.parts());
-        for (int a = 0; a < 10; a++) {
-            for (int b = a + 1; b < 10; b++) {
-                boolean line = b == a + 1 && b <= 3;
-                due("after " + after + ": part(" + a + ", " + b + ")", line ? 1 : 0, desk.part(a, b));
-            }
-        }
     }
 
     private static void objectsAreApart() {
